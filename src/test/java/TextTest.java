@@ -258,12 +258,14 @@ public final class TextTest {
     }
 
     private static void names() {
-        PaneRounds x = Kit.told("pole p 9 0;ladder abcdef 9;front zz 1 1;ladder b 8;man m 0 0 10;man n 0 0 10;"
+        PaneRounds x = Kit.told("pole p 9 0;ladder abcdef 9;front zz 1 1;front zy 1 1;ladder b 8;pole ba 7 0;man m 0 0 10;man n 0 0 10;"
                 + "house h zz m 0 0 1;house p zz n 0 0 1;");
         Kit.due("a is highest", Kit.letters("a"), 1 << 25);
         Kit.due("ladder abcdef", x.named(0, Kit.letters("abcdef")), 0);
         Kit.due("ladder b", x.named(0, Kit.letters("b")), 1);
         Kit.due("pole p comes behind ladders", x.named(0, Kit.letters("p")), 2);
+        Kit.due("pole ba is behind it", x.named(0, Kit.letters("ba")), 3);
+        Kit.due("front zy", x.named(1, Kit.letters("zy")), 1);
         Kit.due("front zz", x.named(1, Kit.letters("zz")), 0);
         Kit.due("man n", x.named(2, Kit.letters("n")), 1);
         Kit.due("house p", x.named(3, Kit.letters("p")), 1);
