@@ -14,6 +14,7 @@ public final class DaysTest {
         complaints();
         rules();
         men();
+        notHeld();
         tanks();
         Kit.end();
     }
@@ -237,6 +238,9 @@ public final class DaysTest {
         rule("10-3-2=5", true);
         rule("100/7/2=7", true);
         rule("7/2*2=6", true);
+        rule("7*2/4=3", true);
+        rule("10-3+2=9", true);
+        rule("1-1=0 and 2*3-4*5=0-14", true);
         rule("(0-7)/2=0-3", true);
         rule("7/(0-2)=0-3", true);
         rule("1<2 and 2<=2 and 2=2 and 1<>2 and 2>=2 and 3>2", true);
@@ -283,6 +287,19 @@ public final class DaysTest {
         x.days(6);
         Kit.due("b is too far for m", x.wiped(7), 1);
         Kit.due("b waits", x.now(1, 0), 7);
+    }
+
+    /** A day's work is never held: a ladder on soft ground takes no time, as it wipes nothing. */
+    private static void notHeld() {
+        PaneRounds x = Kit.told("ladder l 11;front f 1 10 pane 0 10 soft 0;man m 0 0 10;house a f m 0 2 1;");
+        Kit.due("held", x.minutes(0, 1, true), 8);
+        x.days(1);
+        Kit.due("wiped", x.wiped(0), 1);
+        Kit.due("minutes", x.way(0, 0, 2), 4);
+        PaneRounds y = Kit.told("ladder l 11;pole p 12 0;front f 1 10 pane 0 10 soft 0;man m 0 0 10;house a f m 0 2 1;tank 1 1;");
+        Kit.due("held by the ladder", y.fewest(0, 3, true, 1) & 15, 0);
+        y.days(1);
+        Kit.due("not held by the pole", y.tanks(0, 0), 1);
     }
 
     private static void tanks() {

@@ -88,6 +88,11 @@ public final class MoneyTest {
         Kit.due("house -1", x.oldest(-1, 0), -2);
         Kit.due("none of price 0", x.oldest(1, -1), NONE);
         Kit.due("paid at once", x.oldest(2, -1), NONE);
+        PaneRounds y = Kit.told(START + "house a f m 0 0 1 price 1;");
+        y.days(8);
+        Kit.due("price 1", y.oldest(0, -1), 0);
+        y.pay(0, 0, 1);
+        Kit.due("price 1 paid", y.oldest(0, -1), 7);
     }
 
     private static void oweing() {

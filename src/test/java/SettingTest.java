@@ -8,6 +8,7 @@ public final class SettingTest {
         covering();
         missingPanes();
         fewestRows();
+        twelve();
         insteads();
         wrongOnes();
         Kit.end();
@@ -111,6 +112,27 @@ public final class SettingTest {
         Kit.due("two, 1", z.fewest(0, 1, false, 1), 16 + 256);
         Kit.due("two, 2", z.fewest(0, 1, false, 2), 4 * 16 + 256);
         Kit.due("two, minutes", z.minutes(0, 1, false), 22);
+    }
+
+    /** Twelve panes, each too far from the others in column or height: as many settings as can be. */
+    private static void twelve() {
+        StringBuilder b = new StringBuilder("ladder a 6;ladder b 14;ladder c 23;front f 12 24");
+        for (int column = 1; column < 12; column += 3) {
+            b.append(" pane ").append(column).append(" 1 pane ").append(column).append(" 12 pane ").append(column).append(" 23");
+        }
+        PaneRounds x = Kit.told(b + ";");
+        Kit.due("none is missing", x.missing(0, 7, false), 0);
+        Kit.due("twelve", x.fewest(0, 7, false, 0), 12);
+        Kit.due("no more", x.fewest(0, 7, false, 13), NONE);
+        Kit.due("minutes", x.minutes(0, 7, false), 12 * 6 + 12 * 2);
+        for (int i = 0; i < 12; i++) {
+            int setting = x.fewest(0, 7, false, 1 + i);
+            Kit.due("tool of " + i, setting & 15, i / 4);
+            Kit.due("column of " + i, setting >> 4 & 15, 3 * (i % 4));
+        }
+        Kit.due("a first", x.fewest(0, 7, false, 1) >> 8, 1);
+        Kit.due("four by one", x.fewest(0, 2, false, 0), 4);
+        Kit.due("eight are missing", x.missing(0, 2, false), 0b101101101101);
     }
 
     private static void insteads() {

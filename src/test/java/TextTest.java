@@ -83,6 +83,51 @@ public final class TextTest {
         Kit.due("no notes", y.count(5), 0);
         Kit.due("no image", y.back(), -1);
         Kit.due("not wiped", y.now(0, 1), 0);
+        cutTexts();
+        thirdTexts();
+    }
+
+    /** What stands on the tape behind the first n bytes isn't read. */
+    private static void cutTexts() {
+        PaneRounds x = new PaneRounds();
+        Kit.lay(x, "tank 5 100;");
+        Kit.due("a number is cut", x.text(9), -1);
+        Kit.due("its fault", x.fault(0), 1);
+        Kit.due("its place", x.fault(1), 9);
+        Kit.lay(x, "ladder a 4;");
+        Kit.due("a word is cut", x.text(5), -1);
+        Kit.due("its place", x.fault(1), 0);
+        Kit.lay(x, "tank 5 9;tank");
+        Kit.due("a line is cut", x.text(9), 1);
+        Kit.lay(x, ";".repeat(900));
+        Kit.due("900 tokens", x.text(900), -1);
+        Kit.due("their place", x.fault(1), 0);
+    }
+
+    /** Nothing of a text is left when another is told, whichever room it takes inside. */
+    private static void thirdTexts() {
+        String full = "ladder l 9;pole p 9 1;front f 3 5 pane 0 1 block 1 soft 2;man m 1 2 30;"
+                + "house h f m 3 4 5 not 1 price 6 dog from 7 home 2;wet 0 to 199;complain 1;trust 0;tank 3 4;";
+        PaneRounds x = new PaneRounds();
+        for (int i = 0; i < 3; i++) {
+            Kit.due("full", Kit.tell(x, full), 9);
+            Kit.due("full wet", x.count(8), 200);
+        }
+        for (int i = 0; i < 3; i++) {
+            Kit.due("bare", Kit.tell(x, "front f 1 1;man m 0 0 10;house h f m 0 0 1;"), 3);
+            for (int what : new int[] {0, 1, 5, 6, 7, 8, 9, 10, 11, 12}) {
+                Kit.due("bare count(" + what + ")", x.count(what), 0);
+            }
+            Kit.due("bare wet(0)", x.wet(0), 0);
+            Kit.due("bare panes", x.front(0, 2) + x.front(0, 3) + x.front(0, 4), 0);
+            int[] want = {0, 0, 0, 0, 1, 0, 10, 0, 0};
+            for (int what = 0; what < 9; what++) {
+                Kit.due("bare look(0, " + what + ")", x.look(0, what), want[what]);
+            }
+            Kit.due("bare due", x.now(0, 0), 0);
+            Kit.due("bare day", x.days(1), 1);
+            Kit.due("bare wiped", x.wiped(0), 1);
+        }
     }
 
     private static void tokens() {
@@ -146,6 +191,8 @@ public final class TextTest {
     private static void toldAlready() {
         Kit.faultyAt("pole a 4 0;ladder ^a 3;", 3);
         Kit.faultyAt("ladder a 4;ladder ^a 4;", 3);
+        Kit.faultyAt("pole a 4 0;pole ^a 4 0;", 3);
+        Kit.faultyAt("ladder a 4;pole ^a 4 0;", 3);
         Kit.faultyAt("front a 1 1;front ^a 1 1;", 3);
         Kit.faultyAt("man a 0 0 10;man ^a 0 0 10;", 3);
         Kit.faultyAt(HOUSE + ";house ^h f m 0 0 1;", 3);
@@ -213,10 +260,15 @@ public final class TextTest {
         Kit.faultyAt(most + "1+(^1));", 2);
         Kit.faultyAt(most + "not not ^not 1);", 2);
         Kit.faultyAt(most + "not not ^1);", 2);
+        Kit.faultyAt(most + "not not ^day);", 2);
         Kit.faultyAt(most + "not not ^10000);", 2);
         Kit.faultyAt(most + "not not ^abc);", 1);
         Kit.faultyAt(most + "not 1 ^2);", 1);
         Kit.faultyAt(most + "not 1 ^+ 1);", 2);
+        String nots = "not not not not not not not not ";
+        PaneRounds y = Kit.told("trust (((((((" + nots + nots + nots + nots + nots + nots + nots + "(not not not not not not not 1))))))));");
+        Kit.due("count(7) of nots", y.count(7), 64);
+        Kit.faultyAt("trust " + nots + nots + nots + nots + nots + nots + nots + nots + "^1;", 2);
     }
 
     /** Each number is told at its least and most, and once beyond each. */
