@@ -1221,22 +1221,30 @@ public final class PaneRounds {
             boolean priced = false;
             boolean begun = false;
             for (int i = 0; i <= length; i++) {
-                boolean read;
+                if (kind == PRICE && priced || kind == FROM && begun || kind == DOG && it.dog) {
+                    return fail(FAULT_AGAIN);
+                }
+                boolean read = true;
                 switch (kind) {
                     case NOT:
                     case HOME:
                         read = readWeekday(it);
                         break;
                     case PRICE:
-                        read = priced ? fail(FAULT_AGAIN) : readPrice(it);
+                        advance();
+                        read = takeNumber(0, 999);
+                        it.price = got;
                         priced = true;
                         break;
                     case FROM:
-                        read = begun ? fail(FAULT_AGAIN) : readFrom(it);
+                        advance();
+                        read = takeNumber(0, DAYS - 1);
+                        it.from = got;
                         begun = true;
                         break;
                     case DOG:
-                        read = it.dog ? fail(FAULT_AGAIN) : readDog(it);
+                        advance();
+                        it.dog = true;
                         break;
                     default:
                         return true;
@@ -1259,30 +1267,6 @@ public final class PaneRounds {
             } else {
                 it.wont |= 1 << value;
             }
-            advance();
-            return true;
-        }
-
-        private boolean readPrice(House it) {
-            advance();
-            if (!takeNumber(0, 999)) {
-                return false;
-            }
-            it.price = got;
-            return true;
-        }
-
-        private boolean readFrom(House it) {
-            advance();
-            if (!takeNumber(0, DAYS - 1)) {
-                return false;
-            }
-            it.from = got;
-            return true;
-        }
-
-        private boolean readDog(House it) {
-            it.dog = true;
             advance();
             return true;
         }
