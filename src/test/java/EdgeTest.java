@@ -6,6 +6,12 @@ public final class EdgeTest {
         new EdgeFaults(doc).run();
         new EdgeTold(doc).run();
         new EdgeSettings(doc).run();
+        new EdgeDays(doc).run();
+        new EdgeRules(doc).run();
+        new EdgeMoney(doc).run();
+        new EdgeTrips(doc).run();
+        new EdgeImages(doc).run();
+        doc.checkAllQuoted();
         Kit.end();
     }
 }
