@@ -230,6 +230,11 @@ final class EdgeDays {
         // not held: the ladder can't stand on soft ground
         Kit.due("soft ground", minutesOf("ladder l 11;front f 1 24 pane 0 10 soft 0;man m 0 0 10;house a f m 0 0 1;"), 0);
         Kit.due("no tools", minutesOf(front), 0);
+        // 5 there and 5 home: held, it would be 8 more
+        PaneRounds x = Kit.told("ladder l 11;front f 1 24 pane 0 10 soft 0;man m 0 0 10;house a f m 0 5 1;");
+        x.minutes(0, 1, true);
+        x.days(1);
+        Kit.due("not held", x.wiped(0), 1);
     }
 
     private static int minutesOf(String text) {

@@ -303,6 +303,10 @@ final class EdgeFaults {
             Kit.faultyAt(full + sign + "((^1));", 2);
             Kit.faultyAt(full.replace("trust not", "trust not not") + at + "1;", 2);
         }
+        // what is open counts for nothing
+        Kit.due("64 in eight", Kit.told("trust ((((((((not " + ones + "))))))));").count(7), 64);
+        Kit.due("64, the last of them in eight", Kit.told("trust not " + "1+".repeat(31) + "((((((((1))))))));").count(7), 64);
+        Kit.faultyAt("trust ((((((((not " + ones + "^+1))))))));", 2);
         Kit.faultyAt(full + " or ^not 1;", 2);
         Kit.faultyAt(full + " or ^dog;", 1);
         Kit.faultyAt(full + "*^not 1;", 1);

@@ -19,9 +19,9 @@ final class EdgeImages {
         notOfTheImage();
     }
 
-    /** All that can be asked of what is behind the text. */
+    /** What is behind the text, as far as it can be asked in some hundred calls. */
     private static long[] state(PaneRounds x) {
-        long[] all = new long[3 * 7 + 3 * 3 + 2 * 3 + 200 * 9 + 13];
+        long[] all = new long[3 * 10 + 2 * 3 + 18 * 5 + 13];
         int n = 0;
         for (int house = 0; house < 3; house++) {
             for (int what = 0; what < 7; what++) {
@@ -36,12 +36,12 @@ final class EdgeImages {
             all[n++] = x.tour(man);
             all[n++] = x.worth(man);
         }
-        for (int day = 0; day < 200; day++) {
+        for (int i = 0; i < 18; i++) {
+            int day = i < 10 ? i : 8 * i - 66;
             all[n++] = x.wiped(day);
             for (int man = 0; man < 2; man++) {
-                for (int what : new int[] {0, 3, 4, 5}) {
-                    all[n++] = x.way(man, day, what);
-                }
+                all[n++] = x.way(man, day, 0);
+                all[n++] = x.way(man, day, 4);
             }
         }
         for (int what = 0; what < 13; what++) {
@@ -171,6 +171,10 @@ final class EdgeImages {
         Kit.due("a way on 7", x.way(0, 7, 0), 1);
         x.back();
         Kit.due("the note is gone", x.count(5), 0);
+        x.days(20);
+        Kit.due("not trusted on 7 again", x.wiped(7), 0);
+        Kit.due("no way on 7 again", x.way(0, 7, 0), 0);
+        x.back();
         x.pay(0, 0, 9);
         x.strike(0);
         x.strike(1);

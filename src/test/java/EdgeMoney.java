@@ -325,6 +325,11 @@ final class EdgeMoney {
         Kit.due("o with d", x.owed(2), 8);
         x.sell(0, 1);
         Kit.due("n with a", x.owed(1), 11);
+        StringBuilder ten = new StringBuilder();
+        for (int i = 0; i < 10; i++) {
+            ten.append("house ").append((char) ('a' + i)).append(" f m 0 0 1 price 999;");
+        }
+        Kit.due("ten houses", told(ten.toString(), 8).owed(0), 19980);
     }
 
     private void owedOfNoSuch() {

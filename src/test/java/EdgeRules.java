@@ -221,6 +221,10 @@ final class EdgeRules {
         holds("100/(5/2)=50", true);
         holds("100/5*2=40", true);
         holds("7/2*2=6", true);
+        holds("7*3/2=10", true);
+        holds("7*(3/2)=7", true);
+        holds("10-4+3=9", true);
+        holds("10+4-3=11", true);
         holds("2*3+4*5-6/2=23", true);
         holds("1 or 0 and 0", true);
         holds("(1 or 0) and 0", false);
@@ -234,6 +238,14 @@ final class EdgeRules {
         holds("not 0+1", false);
         holds("(not 0)+1=2", true);
         holds("(not not 5)=1", true);
+        holds("1 and not 0", true);
+        holds("1 and not 1", false);
+        holds("0 and not 0", false);
+        holds("0 or not 0", true);
+        holds("0 or not 1", false);
+        holds("1 or not 1 and not 1", true);
+        holds("not 1 or not 1 and not 0", false);
+        holds("(0 or not 1) or 2*3=6 and not 5<4", true);
         holds("1+1=2 and 2<3", true);
         holds("3-1<1+1", false);
     }

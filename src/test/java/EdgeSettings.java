@@ -214,6 +214,9 @@ final class EdgeSettings {
         Kit.due("the last alone", x.missing(0, 64, false), 0);
         Kit.due("an eighth", x.missing(0, 128, false), NONE);
         Kit.due("its fewest", x.fewest(0, 127, false, 1), 6 + 256);
+        Kit.due("its top", x.top(0, 6, 0, 1, false), 8);
+        Kit.due("no tool 7: top", x.top(0, 7, 0, 1, false), NONE);
+        Kit.due("no tool 7: covers", x.covers(0, 7, 0, 1, false), NONE);
     }
 
     private void fewestOfAll() {
@@ -233,6 +236,22 @@ final class EdgeSettings {
             b.append(" pane ").append(column).append(" 1 pane ").append(column).append(" 12 pane ").append(column).append(" 23");
         }
         Kit.due("twelve", Kit.told(b + ";").fewest(0, 7, false, 0), 12);
+        // fewer tools than were asked before, and another front
+        PaneRounds z = Kit.told("pole p 9 0;ladder a 4;ladder b 11;front f 4 9 pane 0 2 pane 3 2 pane 0 7 pane 3 7;front g 9 9 pane 0 1 pane 4 1 pane 8 1;");
+        Kit.due("all tools", z.fewest(0, 7, false, 0), 2);
+        Kit.due("ladders", z.fewest(0, 3, false, 0), 4);
+        Kit.due("the second ladder", z.fewest(0, 2, false, 0), 2);
+        Kit.due("a wider front", z.fewest(1, 4, false, 0), 3);
+        Kit.due("ladders again", z.fewest(0, 3, false, 0), 4);
+        // settings that stand alone are counted, whichever wider ones come behind them
+        PaneRounds w = Kit.told("ladder l 11;pole p 8 0;front f 6 24 pane 0 6 pane 5 11 pane 0 1;");
+        Kit.due("ladder and pole", w.fewest(0, 3, false, 0), 2);
+        Kit.due("the ladder", w.fewest(0, 3, false, 1), 4 * 16 + 2 * 256);
+        Kit.due("the pole", w.fewest(0, 3, false, 2), 1 + 256);
+        // what is wide on one front is nothing to the next one
+        PaneRounds v = Kit.told("pole p 8 0;front f 12 1 pane 9 1 pane 10 1 pane 0 1 pane 5 1;front g 9 1 pane 0 1 pane 8 1;");
+        Kit.due("three", v.fewest(0, 1, false, 0), 3);
+        Kit.due("two apart", v.fewest(1, 1, false, 0), 2);
         // the setting with most panes (in the middle) belongs to no fewest row
         PaneRounds y = Kit.told("pole p 10 0;front f 6 9 pane 0 1 pane 1 1 pane 2 1 pane 3 1 pane 4 1 pane 5 1 pane 2 2 pane 3 2;");
         Kit.due("two, not three", y.fewest(0, 1, false, 0), 2);
@@ -328,6 +347,8 @@ final class EdgeSettings {
         Kit.due("the pole", x.instead(4), 2 * (5 + 100) + 5);
         Kit.due("all", x.instead(7), 2 * (6 + 6 + 2 + 2 + 50) + 8);
         Kit.due("no houses", Kit.told("ladder a 9;front f 1 1 pane 0 1;").instead(1), 0);
+        // not held
+        Kit.due("soft ground", Kit.told("ladder a 11;front f 1 24 pane 0 11 soft 0;man m 0 0 10;house a f m 0 0 1;").instead(1), 50);
     }
 
     private void insteadWrongOnes() {

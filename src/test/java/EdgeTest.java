@@ -3,6 +3,7 @@ public final class EdgeTest {
     public static void main(String[] args) throws Exception {
         Doc doc = new Doc();
         new EdgeWords(doc).run();
+        new EdgeRetold(doc).run();
         new EdgeFaults(doc).run();
         new EdgeTold(doc).run();
         new EdgeSettings(doc).run();

@@ -409,6 +409,8 @@ final class EdgeTrips {
         x.days(1);
         Kit.due("wiped", x.way(0, 0, 0), houses);
         Kit.due("the other man's", x.tanks(1, 0), 0);
+        // what was asked of the front before is no matter
+        x.missing(0, 0, true);
         return x.tanks(0, 0);
     }
 

@@ -41,6 +41,7 @@ final class EdgeWords {
 
     private void newObject() {
         doc.says(1, "No TEXT, day 0 is next, no NOTES, IMAGE; an empty TAPE.");
+        Kit.due("NONE", PaneRounds.NONE, -1);
         PaneRounds x = new PaneRounds();
         for (int what = 0; what <= 12; what++) {
             Kit.due("new: count(" + what + ")", x.count(what), 0);
@@ -452,8 +453,9 @@ final class EdgeWords {
         Kit.faultyAt("trust 1<>^=2;", 1);
         Kit.faultyAt("trust 1<=^>2;", 1);
         Kit.faultyAt("trust 1>=^=2;", 1);
-        Kit.faultyAt("trust 1<^", 1);
-        Kit.faultyAt("trust 1>^", 1);
+        for (String sign : "< > = <= >= <>".split(" ")) {
+            Kit.faultyAt("trust 1" + sign + "^", 1);
+        }
         // the tape goes on behind the text: its = doesn't belong to it
         PaneRounds x = new PaneRounds();
         Kit.lay(x, "trust 1<=2;");
